@@ -406,79 +406,106 @@ public final class CostFormulas {
         }
     }
 
-    /** THE TAPE as TOKENS, one at a time. Signs and words of one letter are known by their byte. */
+    /** THE TAPE as TOKENS. Signs and words of one letter are known by their byte. */
     private static final class Tokens {
         static final int END = 0, UNKNOWN = 1, NUMBER = 2, FOR = 3, RUN = 4, DOTS = '.';
 
         private final Tape tape;
-        private int token;
-        private int place;
-        private int value;
-        private int next;
+        /** Of each TOKEN; the last one is the end. */
+        private final int[] kinds = new int[Tape.MOST_BYTES + 1];
+        private final int[] places = new int[Tape.MOST_BYTES + 1];
+        private final int[] values = new int[Tape.MOST_BYTES + 1];
+        private int size;
+        private int now;
 
         Tokens(Tape tape) {
             this.tape = tape;
         }
 
-        void start() {
-            next = 0;
-            advance();
+        void scan() {
+            size = 0;
+            now = 0;
+            int place = 0;
+            while (place < tape.length) {
+                int first = tape.at(place);
+                int width = 1;
+                if (isLetter(first)) {
+                    width = scanWord(place);
+                } else if (isDigit(first)) {
+                    width = scanNumber(place);
+                } else if (first == '.') {
+                    width = scanDots(place);
+                } else if (!isBlank(first)) {
+                    add(isSign(first) ? first : UNKNOWN, place, 0);
+                }
+                place += Math.max(1, width);
+            }
+            add(END, tape.length, 0);
+        }
+
+        int kind() {
+            return kinds[now];
+        }
+
+        int place() {
+            return places[now];
+        }
+
+        int value() {
+            return values[now];
         }
 
         void advance() {
-            int at = next;
-            while (at < tape.length && isBlank(tape.at(at))) {
-                at++;
-            }
-            place = at;
-            int first = tape.at(at);
-            if (first < 0) {
-                take(END, 0);
-            } else if (isLetter(first)) {
-                takeWord();
-            } else if (isDigit(first)) {
-                takeNumber();
-            } else if (first == '.') {
-                take(tape.at(at + 1) == '.' ? DOTS : UNKNOWN, 2);
-            } else {
-                take(isSign(first) ? first : UNKNOWN, 1);
+            if (now + 1 < size) {
+                now++;
             }
         }
 
-        private void take(int kind, int length) {
-            token = kind;
-            next = place + length;
+        private void add(int kind, int place, int value) {
+            if (size < kinds.length) {
+                kinds[size] = kind;
+                places[size] = place;
+                values[size] = value;
+                size++;
+            }
         }
 
-        private void takeWord() {
+        private int scanWord(int place) {
             int end = place;
             while (end < tape.length && isLetter(tape.at(end))) {
                 end++;
             }
-            int length = end - place;
-            if (length == 1) {
-                take(tape.at(place), 1);
-            } else if (length == 3 && spells('f', 'o', 'r')) {
-                take(FOR, 3);
-            } else if (length == 3 && spells('r', 'u', 'n')) {
-                take(RUN, 3);
-            } else {
-                take(UNKNOWN, length);
+            int kind = UNKNOWN;
+            if (end - place == 1) {
+                kind = tape.at(place);
+            } else if (end - place == 3 && spells(place, 'f', 'o', 'r')) {
+                kind = FOR;
+            } else if (end - place == 3 && spells(place, 'r', 'u', 'n')) {
+                kind = RUN;
             }
+            add(kind, place, 0);
+            return end - place;
         }
 
-        private boolean spells(int first, int second, int third) {
+        private boolean spells(int place, int first, int second, int third) {
             return tape.at(place) == first && tape.at(place + 1) == second && tape.at(place + 2) == third;
         }
 
-        private void takeNumber() {
+        private int scanNumber(int place) {
             int end = place;
-            value = 0;
+            int value = 0;
             while (end < tape.length && isDigit(tape.at(end))) {
                 value = value * 10 + tape.at(end) - '0';
                 end++;
             }
-            take(end - place <= 2 ? NUMBER : UNKNOWN, end - place);
+            add(end - place <= 2 ? NUMBER : UNKNOWN, place, value);
+            return end - place;
+        }
+
+        private int scanDots(int place) {
+            boolean two = tape.at(place + 1) == '.';
+            add(two ? DOTS : UNKNOWN, place, 0);
+            return two ? 2 : 1;
         }
 
         private static boolean isBlank(int code) {
@@ -522,7 +549,9 @@ public final class CostFormulas {
         private final int[] depth = new int[MOST_STATEMENTS];
         /** The STATEMENT behind it and all that is in it. */
         private final int[] after = new int[MOST_STATEMENTS];
-        private final long[] lines = new long[MOST_STATEMENTS * 2 * TERMS];
+        /** The LINES: term t of STATEMENT s at s * TERMS + t. */
+        private final long[] firstLines = new long[MOST_STATEMENTS * TERMS];
+        private final long[] secondLines = new long[MOST_STATEMENTS * TERMS];
         private int degree;
         private int startA = NONE;
         private int startB = NONE;
@@ -532,6 +561,8 @@ public final class CostFormulas {
         void clear() {
             size = 0;
             degree = 0;
+            Arrays.fill(firstLines, 0L);
+            Arrays.fill(secondLines, 0L);
             forgetStart();
         }
 
@@ -551,7 +582,6 @@ public final class CostFormulas {
                 which[statement] = newWhich;
                 depth[statement] = newDepth;
                 after[statement] = statement + 1;
-                Arrays.fill(lines, lineAt(statement, 0), lineAt(statement + 1, 0), 0L);
             }
             return statement;
         }
@@ -560,16 +590,6 @@ public final class CostFormulas {
             if (keeps(statement)) {
                 after[statement] = size;
             }
-        }
-
-        void addTerm(int statement, int line, int term, int factor) {
-            if (keeps(statement)) {
-                lines[lineAt(statement, line) + term] += factor;
-            }
-        }
-
-        static int lineAt(int statement, int line) {
-            return (statement * 2 + line) * TERMS;
         }
 
         void raiseDegree(int to) {
@@ -600,7 +620,6 @@ public final class CostFormulas {
     private static final class Reader {
         private static final int MOST_PARTS = 8;
 
-        private final Tape tape;
         private final Tokens tokens;
         private final Program[] programs;
         /** The VARIABLES and the STATEMENTS of the fors around, outermost first. */
@@ -612,7 +631,6 @@ public final class CostFormulas {
         private Program text;
 
         Reader(Tape tape, Program[] programs) {
-            this.tape = tape;
             this.tokens = new Tokens(tape);
             this.programs = programs;
             this.text = programs[0];
@@ -625,20 +643,21 @@ public final class CostFormulas {
             text.clear();
             depth = 0;
             fault = 0;
-            tokens.start();
+            tokens.scan();
             boolean more = true;
-            // Each time takes a token at least, so that there are no more times than bytes and the end.
-            for (int times = 0; more && times <= tape.length; times++) {
-                more = readNext() && fault == 0;
+            // Each time takes a TOKEN at least, or is the last.
+            for (int times = 0; more && fault == 0 && times < tokens.size; times++) {
+                more = readNext();
             }
             return fault;
         }
 
         /** A STATEMENT, or the head of a for, or its end; false at the end of the text. */
         private boolean readNext() {
-            switch (tokens.token) {
+            int kind = tokens.kind();
+            switch (kind) {
                 case 'w': case 'x': case 'y': case 'z':
-                    readStep(tokens.token - 'w');
+                    readStep(kind - 'w');
                     return true;
                 case Tokens.FOR:
                     readFor();
@@ -650,7 +669,7 @@ public final class CostFormulas {
                     readClose();
                     return true;
                 default:
-                    if (tokens.token != Tokens.END || depth > 0) {
+                    if (kind != Tokens.END || depth > 0) {
                         refuse();
                     }
                     return false;
@@ -659,12 +678,13 @@ public final class CostFormulas {
 
         private void refuse() {
             if (fault == 0) {
-                fault = -10 - tokens.place;
+                fault = -10 - tokens.place();
             }
         }
 
-        private void expect(int token) {
-            if (tokens.token != token) {
+        /** After a FAULT no TOKEN is taken any more, so that the first one stays. */
+        private void expect(int kind) {
+            if (tokens.kind() != kind) {
                 refuse();
             }
             if (fault == 0) {
@@ -674,13 +694,13 @@ public final class CostFormulas {
 
         private void readStep(int kind) {
             tokens.advance();
-            if (tokens.token == ';') {
+            if (tokens.kind() == ';') {
                 text.add(Program.STEP, kind, depth);
                 text.raiseDegree(depth);
             } else {
                 int statement = text.add(Program.STEP_LINE, kind, depth);
                 text.raiseDegree(depth + 1);
-                readLine(statement, 0);
+                readLine(text.firstLines, statement);
             }
             expect(';');
         }
@@ -691,7 +711,7 @@ public final class CostFormulas {
                 return;
             }
             tokens.advance();
-            int name = tokens.token;
+            int name = tokens.kind();
             if (name < 'i' || name > 'm' || termOf(name) >= 0) {
                 refuse();
                 return;
@@ -700,9 +720,9 @@ public final class CostFormulas {
             expect('=');
             int statement = text.add(Program.FOR, 0, depth);
             text.raiseDegree(depth + 1);
-            readLine(statement, 0);
+            readLine(text.firstLines, statement);
             expect(Tokens.DOTS);
-            readLine(statement, 1);
+            readLine(text.secondLines, statement);
             expect('{');
             names[depth] = name;
             around[depth] = statement;
@@ -721,56 +741,64 @@ public final class CostFormulas {
 
         private void readRun() {
             tokens.advance();
-            if (tokens.token != Tokens.NUMBER || tokens.value >= held) {
+            int number = tokens.value();
+            if (tokens.kind() != Tokens.NUMBER || number < 0 || number >= held) {
                 refuse();
                 return;
             }
-            int number = tokens.value;
             tokens.advance();
             expect('(');
             int statement = text.add(Program.RUN, number, depth);
             text.raiseDegree(depth + programs[number].degree);
-            readLine(statement, 0);
+            readLine(text.firstLines, statement);
             expect(',');
-            readLine(statement, 1);
+            readLine(text.secondLines, statement);
             expect(')');
             expect(';');
         }
 
-        private void readLine(int statement, int line) {
-            readPart(statement, line, 1);
-            for (int parts = 1; fault == 0 && (tokens.token == '+' || tokens.token == '-'); parts++) {
-                if (parts >= MOST_PARTS) {
-                    refuse();
-                    return;
-                }
-                int sign = tokens.token == '+' ? 1 : -1;
+        private void readLine(long[] lines, int statement) {
+            readPart(lines, statement, 1);
+            for (int parts = 1; parts < MOST_PARTS && isAtSign(); parts++) {
+                int sign = tokens.kind() == '+' ? 1 : -1;
                 tokens.advance();
-                readPart(statement, line, sign);
+                readPart(lines, statement, sign);
+            }
+            if (isAtSign()) {
+                refuse();
             }
         }
 
-        private void readPart(int statement, int line, int sign) {
+        private boolean isAtSign() {
+            return fault == 0 && (tokens.kind() == '+' || tokens.kind() == '-');
+        }
+
+        private void readPart(long[] lines, int statement, int sign) {
             if (fault != 0) {
                 return;
             }
             int factor = sign;
-            if (tokens.token == Tokens.NUMBER) {
-                factor = sign * tokens.value;
+            int term = NUMBER_TERM;
+            boolean named = true;
+            if (tokens.kind() == Tokens.NUMBER) {
+                factor = sign * tokens.value();
                 tokens.advance();
-                if (tokens.token != '*') {
-                    text.addTerm(statement, line, NUMBER_TERM, factor);
+                named = tokens.kind() == '*';
+                if (named) {
+                    tokens.advance();
+                }
+            }
+            if (named) {
+                term = termOf(tokens.kind());
+                if (term < 0) {
+                    refuse();
                     return;
                 }
                 tokens.advance();
             }
-            int term = termOf(tokens.token);
-            if (term < 0) {
-                refuse();
-                return;
+            if (text.keeps(statement)) {
+                lines[statement * TERMS + term] += factor;
             }
-            text.addTerm(statement, line, term, factor);
-            tokens.advance();
         }
 
         /** Which term of a LINE a NAME is, or -1. */
@@ -819,16 +847,16 @@ public final class CostFormulas {
             Arrays.fill(made, 0L);
             turns = 0;
             end = FINE;
-            runProgram(number, a, b, 0);
+            putInputs(number, a, b);
+            runBlock(number, 0, programs[number].size, 0);
             return end;
         }
 
-        private void runProgram(int number, long a, long b, int level) {
+        private void putInputs(int number, long a, long b) {
             int base = number * TERMS;
             worth[base + NUMBER_TERM] = 1;
             worth[base + A_TERM] = a;
             worth[base + B_TERM] = b;
-            runBlock(number, 0, programs[number].size, level);
         }
 
         private void runBlock(int number, int from, int to, int level) {
@@ -856,17 +884,18 @@ public final class CostFormulas {
         }
 
         private void makeSteps(int number, int s) {
-            long more = reckon(number, s, 0);
+            Program text = programs[number];
+            long more = reckon(number, s, text.firstLines);
             if (more < 0) {
                 end = BROKEN;
             }
-            made[programs[number].which[s]] += more;
+            made[text.which[s]] += more;
         }
 
         private void runFor(int number, int s, int level) {
-            long first = reckon(number, s, 0);
-            long last = reckon(number, s, 1);
             Program text = programs[number];
+            long first = reckon(number, s, text.firstLines);
+            long last = reckon(number, s, text.secondLines);
             int variable = number * TERMS + FOR_TERM + text.depth[s];
             for (long v = first; v <= last && takesTurn(); v++) {
                 worth[variable] = v;
@@ -875,17 +904,20 @@ public final class CostFormulas {
         }
 
         private void runOther(int number, int s, int level) {
-            int called = programs[number].which[s];
+            // A TURN goes before the LINES: with the one too many it is SPENT, whatever they are.
             if (!takesTurn()) {
                 return;
             }
-            long a = reckon(number, s, 0);
-            long b = reckon(number, s, 1);
+            Program text = programs[number];
+            long a = reckon(number, s, text.firstLines);
+            long b = reckon(number, s, text.secondLines);
+            int called = text.which[s];
             if (called >= number || !isRunInput(a) || !isRunInput(b)) {
                 end = BROKEN;
                 return;
             }
-            runProgram(called, a, b, level + 1);
+            putInputs(called, a, b);
+            runBlock(called, 0, programs[called].size, level + 1);
         }
 
         private static boolean isRunInput(long x) {
@@ -902,14 +934,13 @@ public final class CostFormulas {
             return end == FINE;
         }
 
-        private long reckon(int number, int s, int line) {
-            Program text = programs[number];
-            int at = Program.lineAt(s, line);
+        private long reckon(int number, int s, long[] lines) {
+            int at = s * TERMS;
             int base = number * TERMS;
-            int terms = FOR_TERM + text.depth[s];
+            int terms = FOR_TERM + programs[number].depth[s];
             long sum = 0;
             for (int t = 0; t < terms; t++) {
-                sum += text.lines[at + t] * worth[base + t];
+                sum += lines[at + t] * worth[base + t];
             }
             if (sum < -MOST_REACH || sum > MOST_REACH) {
                 end = BROKEN;
@@ -938,7 +969,7 @@ public final class CostFormulas {
             startA = a;
             startB = b;
             boolean holds = text.degree <= MOST_DEGREE;
-            for (int s = 0; holds && text.keeps(s); s++) {
+            for (int s = 0; holds && s < text.size; s++) {
                 holds = provesStatement(s);
             }
             return holds;
@@ -949,42 +980,37 @@ public final class CostFormulas {
                 case Program.STEP:
                     return true;
                 case Program.STEP_LINE:
-                    Arrays.fill(row, 0L);
-                    addLine(s, 0, 1);
-                    return provesRow(text.depth[s]);
+                    return provesLess(s, text.firstLines, 0);
                 case Program.FOR:
                     return provesFor(s);
                 default:
-                    return provesRun(s);
+                    Program called = programs[text.which[s]];
+                    return called.isShown() && provesLess(s, text.firstLines, called.startA)
+                        && provesLess(s, text.secondLines, called.startB);
             }
         }
 
         private boolean provesFor(int s) {
             Arrays.fill(row, 0L);
-            addLine(s, 1, 1);
-            addLine(s, 0, -1);
+            addLine(text.secondLines, s, 1);
+            addLine(text.firstLines, s, -1);
             row[NUMBER_TERM]++;
             // The latest for of each depth is the one around what follows.
             around[text.depth[s]] = s;
             return provesRow(text.depth[s]);
         }
 
-        private boolean provesRun(int s) {
-            Program called = programs[text.which[s]];
-            return called.isShown() && provesInput(s, 0, called.startA) && provesInput(s, 1, called.startB);
-        }
-
-        private boolean provesInput(int s, int line, int least) {
+        /** Of a LINE less a number. */
+        private boolean provesLess(int s, long[] lines, int less) {
             Arrays.fill(row, 0L);
-            addLine(s, line, 1);
-            row[NUMBER_TERM] -= least;
+            addLine(lines, s, 1);
+            row[NUMBER_TERM] -= less;
             return provesRow(text.depth[s]);
         }
 
-        private void addLine(int s, int line, long times) {
-            int at = Program.lineAt(s, line);
+        private void addLine(long[] lines, int s, long times) {
             for (int t = 0; t < TERMS; t++) {
-                row[t] += times * text.lines[at + t];
+                row[t] += times * lines[s * TERMS + t];
             }
         }
 
@@ -992,7 +1018,7 @@ public final class CostFormulas {
             for (int d = depth - 1; d >= 0; d--) {
                 long factor = row[FOR_TERM + d];
                 row[FOR_TERM + d] = 0;
-                addLine(around[d], factor > 0 ? 0 : 1, factor);
+                addLine(factor > 0 ? text.firstLines : text.secondLines, around[d], factor);
             }
             return row[A_TERM] >= 0 && row[B_TERM] >= 0
                 && row[A_TERM] * startA + row[B_TERM] * startB + row[NUMBER_TERM] >= 0;
