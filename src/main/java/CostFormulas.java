@@ -186,9 +186,7 @@ public final class CostFormulas {
         }
         Program left = programs[p];
         Program right = programs[q];
-        // A program that is not SHOWN has no B; what the other one has bounds b even so, as BAD goes before NOT.
-        int leastB = Math.max(0, Math.max(left.startB, right.startB));
-        if (!isWithin(b, leastB, MOST_INPUT)) {
+        if (!isWithin(b, leastB(left, right), MOST_INPUT)) {
             return BAD;
         }
         if (!fitter.hasFormulas(p) || !fitter.hasFormulas(q)) {
@@ -251,6 +249,11 @@ public final class CostFormulas {
 
     private static boolean isWithin(int x, int least, int most) {
         return x >= least && x <= most;
+    }
+
+    /** A program that is not SHOWN has no B: there is no greater B of both then, and b is an INPUT like any other. */
+    private static int leastB(Program left, Program right) {
+        return left.isShown() && right.isShown() ? Math.max(left.startB, right.startB) : 0;
     }
 
     /** False if one is TOO GREAT; all are filled in even then, so that a sum with them is TOO GREAT as well. */

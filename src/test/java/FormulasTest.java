@@ -17,6 +17,7 @@ public final class FormulasTest {
         comparingWrongly();
         overtaking();
         overtakingWrongly();
+        overtakingWhatIsNotShown();
         growing();
         justGreatEnough();
         tooGreatWithInputs();
@@ -236,7 +237,9 @@ public final class FormulasTest {
         due("14 NOT both", x.overtakes(1, 1, 0), NOT);
         due("14 no FORMULAS", x.overtakes(0, 2, 5), NOT);
         due("14 BAD goes before NOT", x.overtakes(0, 2, 4), BAD);
-        due("14 BAD goes before NOT", x.overtakes(0, 1, 4), BAD);
+        due("14 BAD goes before NOT", x.overtakes(2, 0, 4), BAD);
+        due("14 BAD goes before NOT", x.overtakes(0, 1, -1), BAD);
+        due("14 BAD goes before NOT", x.overtakes(1, 0, 1001), BAD);
         due("14 BAD goes before NOT", x.overtakes(1, 1, -1), BAD);
         due("14 BAD goes before NOT", x.overtakes(1, 1, 1001), BAD);
         due("14 BAD p", x.overtakes(3, 0, 5), BAD);
@@ -245,6 +248,22 @@ public final class FormulasTest {
         due("14 BAD q", x.overtakes(0, -1, 5), BAD);
         due("14 the greatest b", x.overtakes(0, 0, 1000), NONE);
         due("14 b above", x.overtakes(0, 0, 1001), BAD);
+    }
+
+    private static void overtakingWhatIsNotShown() {
+        CostFormulas x = Check.with("w a;", "x b-8;");
+        due("14 none has a B", x.overtakes(0, 1, 0), NOT);
+        x.judge(0, 0, 5);
+        due("14 q has no B", x.overtakes(0, 1, 4), NOT);
+        due("14 p has no B", x.overtakes(1, 0, 4), NOT);
+        due("14 p has no B", x.overtakes(1, 0, 0), NOT);
+        x.judge(1, 0, 8);
+        due("14 both have one", x.overtakes(0, 1, 7), BAD);
+        due("14 both have one", x.overtakes(0, 1, 8), 1);
+        x.judge(1, 0, 7);
+        due("14 SHOWN no more", x.overtakes(0, 1, 4), NOT);
+        due("14 SHOWN no more", x.overtakes(1, 0, 4), NOT);
+        due("14 the one that is SHOWN, twice", x.overtakes(0, 0, 4), BAD);
     }
 
     private static void growing() {

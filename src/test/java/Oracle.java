@@ -589,7 +589,7 @@ final class Oracle {
         }
         Text left = texts.get(p);
         Text right = texts.get(q);
-        if (left.start != null && b < left.start[1] || right.start != null && b < right.start[1]) {
+        if (left.start != null && right.start != null && b < Math.max(left.start[1], right.start[1])) {
             return -1;
         }
         BigInteger[][][] f = factorsOf(left);
