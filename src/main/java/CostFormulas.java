@@ -181,16 +181,17 @@ public final class CostFormulas {
     }
 
     public int overtakes(int p, int q, int b) {
-        if (!isProgram(p) || !isProgram(q)) {
-            return BAD;
-        }
-        Program left = programs[p];
-        Program right = programs[q];
-        if (!isWithin(b, leastB(left, right), MOST_INPUT)) {
+        if (!isProgram(p) || !isProgram(q) || !isWithin(b, 0, MOST_INPUT)) {
             return BAD;
         }
         if (!fitter.hasFormulas(p) || !fitter.hasFormulas(q)) {
             return NOT;
+        }
+        Program left = programs[p];
+        Program right = programs[q];
+        // The greater B is told of two programs with FORMULAS alone, so this BAD comes behind NOT.
+        if (b < Math.max(left.startB, right.startB)) {
+            return BAD;
         }
         if (!fillCostFactors(left, one) || !fillCostFactors(right, other)) {
             return SPENT;
@@ -249,11 +250,6 @@ public final class CostFormulas {
 
     private static boolean isWithin(int x, int least, int most) {
         return x >= least && x <= most;
-    }
-
-    /** A program that is not SHOWN has no B: there is no greater B of both then, and b is an INPUT like any other. */
-    private static int leastB(Program left, Program right) {
-        return left.isShown() && right.isShown() ? Math.max(left.startB, right.startB) : 0;
     }
 
     /** False if one is TOO GREAT; all are filled in even then, so that a sum with them is TOO GREAT as well. */

@@ -18,6 +18,7 @@ public final class FormulasTest {
         overtaking();
         overtakingWrongly();
         overtakingWhatIsNotShown();
+        overtakingWithoutFormulas();
         growing();
         justGreatEnough();
         tooGreatWithInputs();
@@ -236,8 +237,6 @@ public final class FormulasTest {
         due("14 NOT p", x.overtakes(1, 0, 5), NOT);
         due("14 NOT both", x.overtakes(1, 1, 0), NOT);
         due("14 no FORMULAS", x.overtakes(0, 2, 5), NOT);
-        due("14 BAD goes before NOT", x.overtakes(0, 2, 4), BAD);
-        due("14 BAD goes before NOT", x.overtakes(2, 0, 4), BAD);
         due("14 BAD goes before NOT", x.overtakes(0, 1, -1), BAD);
         due("14 BAD goes before NOT", x.overtakes(1, 0, 1001), BAD);
         due("14 BAD goes before NOT", x.overtakes(1, 1, -1), BAD);
@@ -264,6 +263,24 @@ public final class FormulasTest {
         due("14 SHOWN no more", x.overtakes(0, 1, 4), NOT);
         due("14 SHOWN no more", x.overtakes(1, 0, 4), NOT);
         due("14 the one that is SHOWN, twice", x.overtakes(0, 0, 4), BAD);
+    }
+
+    /** PROGRAM 1 is SHOWN, but its RUNS with an a of 1 and more are SPENT, and so it has no FORMULAS. */
+    private static void overtakingWithoutFormulas() {
+        CostFormulas x = Check.with("w a;", "for i=1..99*a{for j=1..99*a{w;}for j=1..99*a{w;}for j=1..99*a{w;}}");
+        x.judge(0, 0, 5);
+        due("14 SHOWN", x.judge(1, 0, 7), 1);
+        due("14 without FORMULAS", x.shown(1, 2), 0);
+        for (int b = 0; b < 9; b++) {
+            due("14 no FORMULAS of q", x.overtakes(0, 1, b), NOT);
+            due("14 no FORMULAS of p", x.overtakes(1, 0, b), NOT);
+            due("14 no FORMULAS of both", x.overtakes(1, 1, b), NOT);
+        }
+        due("14 the greatest b", x.overtakes(0, 1, 1000), NOT);
+        due("14 BAD goes before NOT", x.overtakes(0, 1, -1), BAD);
+        due("14 BAD goes before NOT", x.overtakes(1, 0, 1001), BAD);
+        due("14 with FORMULAS b has a least", x.overtakes(0, 0, 4), BAD);
+        due("14 with FORMULAS b has a least", x.overtakes(0, 0, 5), NONE);
     }
 
     private static void growing() {

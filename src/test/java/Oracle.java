@@ -589,13 +589,13 @@ final class Oracle {
         }
         Text left = texts.get(p);
         Text right = texts.get(q);
-        if (left.start != null && right.start != null && b < Math.max(left.start[1], right.start[1])) {
-            return -1;
-        }
         BigInteger[][][] f = factorsOf(left);
         BigInteger[][][] g = factorsOf(right);
         if (f == null || g == null) {
             return -3;
+        }
+        if (b < Math.max(left.start[1], right.start[1])) {
+            return -1;
         }
         try {
             BigInteger[][] ofP = costOf(f);
