@@ -33,6 +33,36 @@ final class Check {
         return x;
     }
 
+    /** PROGRAMS that are all SHOWN from 0, 0 on. */
+    static CostFormulas shown(String... texts) {
+        CostFormulas x = with(texts);
+        for (int n = 0; n < texts.length; n++) {
+            if (x.judge(n, 0, 0) != 1) {
+                throw new IllegalStateException(texts[n] + " is not SHOWN");
+            }
+        }
+        return x;
+    }
+
+    /** A text that is read behind two PROGRAMS. */
+    void taken(String text) {
+        CostFormulas x = with("w;", "w a;");
+        due("4 '" + text + "' is taken", read(x, text), 2);
+        due("4 THE TAPE is empty after '" + text + "'", x.told(1), 0);
+        due("4 PROGRAMS with '" + text + "'", x.told(0), 3);
+    }
+
+    /** A text that has a FAULT: nothing of it stays, and the next text is read as if it had not been. */
+    void fault(String text, int place) {
+        CostFormulas x = with("w;", "w a;");
+        due("4 FAULT of '" + text + "'", read(x, text), -10 - place);
+        due("4 THE TAPE is empty after '" + text + "'", x.told(1), 0);
+        due("4 no PROGRAM of '" + text + "'", x.told(0), 2);
+        due("4 the text behind '" + text + "'", read(x, "for i=1..a{w;}"), 2);
+        due("4 steps of the text behind '" + text + "'", x.count(2, 0, 7, 0), 7);
+        due("4 DEGREE of the text behind '" + text + "'", x.degree(2), 1);
+    }
+
     void due(String what, long got, long want) {
         asked++;
         if (got != want) {

@@ -29,17 +29,8 @@ public final class FormulasTest {
         CHECK.due(what, got, want);
     }
 
-    /** PROGRAMS that are all SHOWN from 0, 0 on. */
-    private static CostFormulas shown(String... texts) {
-        CostFormulas x = Check.with(texts);
-        for (int n = 0; n < texts.length; n++) {
-            due("8 '" + texts[n] + "'", x.judge(n, 0, 0), 1);
-        }
-        return x;
-    }
-
     private static void factors() {
-        CostFormulas x = shown("for i=1..a{w i;}x b;y 7;", "for i=1..a{for j=1..b{w;x j;}}", "z;");
+        CostFormulas x = Check.shown("for i=1..a{w i;}x b;y 7;", "for i=1..a{for j=1..b{w;x j;}}", "z;");
         long[] w = {0, 0, 0, 1, 0, 1};
         long[] xs = {0, 1, 0, 0, 0, 0};
         int[] i = {0, 0, 0, 1, 1, 2};
@@ -57,7 +48,7 @@ public final class FormulasTest {
         due("10 a times the sum to b", x.factor(1, 1, 1, 1), 1);
         due("10 DEGREE 0", x.factor(2, 3, 0, 0), 1);
         due("10 DEGREE 0", x.factor(2, 3, 1, 0), 0);
-        CostFormulas y = shown("for i=1..a{for j=1..i{for k=1..j{for l=1..k{w l;}}}}");
+        CostFormulas y = Check.shown("for i=1..a{for j=1..i{for k=1..j{for l=1..k{w l;}}}}");
         long[] five = {0, 1, 4, 6, 4, 1};
         for (int n = 0; n <= 5; n++) {
             due("10 C(a + 4, 5)", y.factor(0, 0, n, 0), five[n]);
@@ -114,9 +105,9 @@ public final class FormulasTest {
             }
         }
         due("11 the greatest", x.steps(0, 0, 1000, 1000), 500500);
-        CostFormulas y = shown("for i=1..a{for j=1..a{for k=1..a{for l=1..a{w b;}}}}");
+        CostFormulas y = Check.shown("for i=1..a{for j=1..a{for k=1..a{for l=1..a{w b;}}}}");
         due("11 beyond what can be run", y.steps(0, 0, 1000, 1000), TEN_18 / 1000);
-        due("11 DEGREE 0", shown("w;w;").steps(0, 0, 1000, 0), 2);
+        due("11 DEGREE 0", Check.shown("w;w;").steps(0, 0, 1000, 0), 2);
     }
 
     private static void stepsWrongly() {
@@ -137,7 +128,7 @@ public final class FormulasTest {
     }
 
     private static void costs() {
-        CostFormulas x = shown("w a;x b;y 3;z;");
+        CostFormulas x = Check.shown("w a;x b;y 3;z;");
         due("11 COST at first", x.steps(0, -1, 10, 20), 34);
         for (int kind = 0; kind < 4; kind++) {
             x.price(kind, new int[] {1000, 0, 7, 20}[kind]);
@@ -147,7 +138,7 @@ public final class FormulasTest {
     }
 
     private static void compareDue(String p, String q, int want) {
-        CostFormulas x = shown(p, q);
+        CostFormulas x = Check.shown(p, q);
         due("13 '" + p + "' and '" + q + "'", x.compare(0, 1), want);
         due("13 '" + q + "' and '" + p + "'", x.compare(1, 0), want == 1 ? 2 : want == 2 ? 1 : want);
     }
@@ -162,7 +153,7 @@ public final class FormulasTest {
         compareDue("w 9;", "for i=1..a{w i;}", 3);
         compareDue("w 0;", "for i=1..a{w i;}", 2);
         compareDue("for i=1..a{w i;}", "w a;", 1);
-        CostFormulas x = shown("w;w;", "x;");
+        CostFormulas x = Check.shown("w;w;", "x;");
         due("13 PRICES 1", x.compare(0, 1), 1);
         x.price(1, 2);
         due("13 PRICE 2", x.compare(0, 1), 0);
@@ -203,7 +194,7 @@ public final class FormulasTest {
     private static void overtaking() {
         String[] texts = {"for i=1..a{w i;}", "w 10*a;", "for i=1..a{for j=1..b{w;}}", "w 50;",
             "w 99+99+99+99+99+99+99+99;w 99+99+9;", "w a;", "x 1+a;", ""};
-        CostFormulas x = shown(texts);
+        CostFormulas x = Check.shown(texts);
         due("14 190 is not more, 210 is", x.overtakes(0, 1, 0), 20);
         due("14 the other way round", x.overtakes(1, 0, 0), 1);
         due("14 51 times 1", x.overtakes(2, 3, 1), 51);
@@ -284,7 +275,7 @@ public final class FormulasTest {
     }
 
     private static void growing() {
-        CostFormulas x = shown("", "w;", "w 5;", "w b;", "for i=1..a{for j=1..b{w;}}x a;", "for i=1..a{x i;}");
+        CostFormulas x = Check.shown("", "w;", "w 5;", "w b;", "for i=1..a{for j=1..b{w;}}x a;", "for i=1..a{x i;}");
         int[] want = {NONE, 0, 0, 1, 2, 2};
         for (int n = 0; n < 6; n++) {
             due("15 " + n, x.grows(n), want[n]);
@@ -297,7 +288,7 @@ public final class FormulasTest {
         due("15 BAD", x.grows(6), BAD);
         due("15 BAD", x.grows(-1), BAD);
         due("15 not SHOWN", Check.with("w;").grows(0), NOT);
-        CostFormulas y = shown("for i=1..99*a{for j=1..99*a{w;}}");
+        CostFormulas y = Check.shown("for i=1..99*a{for j=1..99*a{w;}}");
         due("15 no FORMULAS", y.grows(0), NOT);
     }
 
@@ -309,7 +300,7 @@ public final class FormulasTest {
     private static void justGreatEnough() {
         String j = parts("i", 5, "5*i");
         String k = parts("j", 5, "5*j");
-        CostFormulas x = shown(
+        CostFormulas x = Check.shown(
             "for i=40..40{for j=" + j + ".." + j + "{for k=" + k + ".." + k + "{for l=99*k+k..99*k+k{"
                 + "w99*l+l;".repeat(10) + "}}}}",
             "run 0(a,b);".repeat(20), "run 1(a,b);".repeat(10), "run 2(a,b);".repeat(5), "run 3(a,b);x;", "w;");
@@ -340,7 +331,7 @@ public final class FormulasTest {
     /** PROGRAM 3 makes 2116 * 1881 * (768476808 + t) steps of w for each t of 1 .. a. */
     private static void tooGreatWithInputs() {
         String j = parts("i", 7, "99*i");
-        CostFormulas x = shown(
+        CostFormulas x = Check.shown(
             "for i=99..99{for j=" + j + ".." + j + "{for k=99*j..99*j{for l=99*k+1..99*k+a{"
                 + "w99*l;".repeat(19) + "}}}}",
             "run 0(a,b);".repeat(23), "run 1(a,b);".repeat(23), "run 2(a,b);".repeat(4), "", "w;");

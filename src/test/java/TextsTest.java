@@ -96,10 +96,7 @@ public final class TextsTest {
     }
 
     private static void fault(String text, int place) {
-        CostFormulas x = Check.with("w;", "w a;");
-        due("4 FAULT of '" + text + "'", Check.read(x, text), -10 - place);
-        due("4 THE TAPE is empty after '" + text + "'", x.told(1), 0);
-        due("4 no PROGRAM of '" + text + "'", x.told(0), 2);
+        CHECK.fault(text, place);
     }
 
     private static void faultsOfTokens() {
