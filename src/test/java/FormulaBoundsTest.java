@@ -15,6 +15,7 @@ public final class FormulaBoundsTest {
         factorsBeyondTheDegreeAre0();
         factorRefuses();
         inputsAreFromTheStartTo1000();
+        formulasHoldFromTheStartOn();
         stepsHaveKindsAndACost();
         stepsRefuses();
         pricesAre0To1000();
@@ -124,6 +125,35 @@ public final class FormulaBoundsTest {
             due("11 b far", x.steps(0, 0, 500, far), TOO_GREAT);
         }
         due("11 afterwards", x.steps(0, 0, 8, 0), 16);
+    }
+
+    /** Fors that have no number at the start, VARIABLES that go off, runs from where they are SHOWN on. */
+    private static void formulasHoldFromTheStartOn() {
+        holdsFrom(2, 0, "for i=3..a{w i-3;x;}");
+        holdsFrom(3, 1, "for i=3..a-1{for j=i+1..a-1{w j-i;x a-j;}}w a+b-4;");
+        holdsFrom(0, 0, "for i=0-b..a{w i+b;x a-i;for j=i..a{w j+b;}}");
+        holdsFrom(0, 2, "for i=b..a+b-1{for j=2..i+1{w i+1-j;}for k=2..b{x k-2+a;}}");
+        holdsFrom(1, 1, "w a-1;x b-1;", "for i=1..a{for j=i..a{run 0(j-i+1,b);}}", "run 1(a+b,2*b+3);run 0(b,a);");
+        holdsFrom(0, 0, "for i=1..a{for j=1..i{for k=j..i{for l=1..b{w l+i-k;}x k;}}}");
+    }
+
+    /** Of the last PROGRAM: the FORMULA tells at the start and behind it what a RUN counts. */
+    private static void holdsFrom(int startA, int startB, String... texts) {
+        CostFormulas x = Check.with(texts);
+        int last = texts.length - 1;
+        for (int n = 0; n <= last; n++) {
+            due("8 '" + texts[n] + "'", x.judge(n, startA, startB), 1);
+        }
+        due("9 FORMULAS of '" + texts[last] + "'", x.shown(last, 2), 1);
+        for (int a = startA; a <= startA + 9; a++) {
+            for (int b = startB; b <= startB + 9; b++) {
+                int kind = (a + b) % 2;
+                long counted = x.count(last, kind, a, b);
+                due("11 '" + texts[last] + "' with " + a + ", " + b, x.steps(last, kind, a, b), counted);
+            }
+        }
+        due("11 below A", x.steps(last, 0, startA - 1, startB), TOO_GREAT);
+        due("11 below B", x.steps(last, 0, startA, startB - 1), TOO_GREAT);
     }
 
     private static void stepsHaveKindsAndACost() {
